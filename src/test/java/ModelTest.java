@@ -1,0 +1,160 @@
+import java.util.Random;
+
+/** Promises 1 to 17 at once: long runs of calls, the same each time, against the Model. */
+public final class ModelTest {
+    private static final int RUNS = 1500;
+    private static final int CALLS = 512;
+    private static final int PATTERNS = 60000;
+    private static final String[] NAMES = {
+        "type", "text", "whole", "leaf", "call", "takes", "run", "number", "tag", "letter", "give", "drop", "uses",
+        "depth", "clear", "size"
+    };
+    // How often each of NAMES is called, of 100.
+    private static final int[] OFTEN = {13, 10, 5, 7, 24, 1, 18, 5, 4, 4, 3, 1, 2, 2, 0, 1};
+    private static final String[] PIECES = {
+        "a", "b", "ab", "aB", "ba", "abc", "12", "-", "0", "true", " ", "*", "(a)", "a|b", "[a-c]", ".", "b+", "^a", "b$"
+    };
+    private static final long[] WHOLES = {
+        0, 1, -1, 2, 3, -2, 7, 24, 1000, 31250000, -32000000, 999999999999999L, 1000000000000000L,
+        -1000000000000000L, 1000000000000001L, -1000000000000001L, Long.MAX_VALUE, Long.MIN_VALUE
+    };
+    private static final String PATTERN_BYTES = "aaabbbc|||***++??((()))^$.[]-\\";
+
+    public static void main(String[] args) {
+        Random random = new Random(20261115);
+        for (int run = 0; run < RUNS; run++) {
+            long wrong = run(run, random);
+            Check.due("run " + run + ": wrong answers", wrong, 0);
+        }
+        patterns(random);
+        Check.end();
+    }
+
+    private static long run(int run, Random random) {
+        FunctionRows x = new FunctionRows();
+        Model model = new Model();
+        int size = 0;
+        for (int i = 0; i < CALLS; i++) {
+            String name = random.nextInt(300) == 0 ? "clear" : NAMES[chosen(random)];
+            long first = first(name, size, random);
+            int second = second(name, first, size, random);
+            int third = operand(size, random);
+            int fourth = operand(size, random);
+            long got = answer(x, name, first, second, third, fourth);
+            long want = model.answer(name, first, second, third, fourth);
+            if (got != want) {
+                System.out.println("run " + run + ", call " + i + ": " + name + "(" + first + ", " + second + ", " + third
+                    + ", " + fourth + ") answered " + got + ", due is " + want);
+                return 1;
+            }
+            size = x.size();
+        }
+        return 0;
+    }
+
+    private static int chosen(Random random) {
+        int left = random.nextInt(100);
+        for (int i = 0; i < OFTEN.length; i++) {
+            left -= OFTEN[i];
+            if (left < 0) {
+                return i;
+            }
+        }
+        return OFTEN.length - 1;
+    }
+
+    private static long first(String name, int size, Random random) {
+        switch (name) {
+            case "type": return bytes(random);
+            case "text": return random.nextInt(3) > 0 ? 0 : random.nextInt(3) > 0 ? 5 : random.nextInt(30) - 1;
+            case "whole": return WHOLES[random.nextInt(WHOLES.length)];
+            case "leaf": return random.nextInt(10) == 0 ? random.nextInt(8) - 2 : new int[] {0, 1, 4}[random.nextInt(3)];
+            case "call": return random.nextInt(32) - 1;
+            case "takes": return random.nextInt(34) - 2;
+            case "letter": return random.nextInt(10) - 1;
+            case "give":
+            case "drop": return random.nextInt(10) - 1;
+            default: return operand(size, random);
+        }
+    }
+
+    private static int second(String name, long first, int size, Random random) {
+        if (name.equals("type")) {
+            int length = (71 - Long.numberOfLeadingZeros(first)) / 8;
+            return random.nextInt(40) == 0 ? random.nextInt(11) - 1 : length;
+        }
+        if (name.equals("leaf")) {
+            return first == 4 ? random.nextInt(5) * 250 - random.nextInt(2) : random.nextInt(random.nextBoolean() ? 2 : 10);
+        }
+        return operand(size, random);
+    }
+
+    private static long bytes(Random random) {
+        String piece = PIECES[random.nextInt(PIECES.length)];
+        long bytes = 0;
+        for (char b : piece.toCharArray()) {
+            bytes = bytes << 8 | b;
+        }
+        return random.nextInt(60) == 0 ? random.nextLong() : bytes;
+    }
+
+    private static int operand(int size, Random random) {
+        return random.nextInt(50) == 0 ? random.nextInt(90) - 5 : random.nextInt(Math.max(size, 1));
+    }
+
+    private static long answer(FunctionRows x, String name, long first, int second, int third, int fourth) {
+        int i = (int) first;
+        switch (name) {
+            case "type": return x.type(first, second);
+            case "text": return x.text(i);
+            case "whole": return x.whole(first);
+            case "leaf": return x.leaf(i, second);
+            case "call": return x.call(i, second, third, fourth);
+            case "takes": return x.takes(i);
+            case "run": return x.run(i);
+            case "number": return x.number();
+            case "tag": return x.tag();
+            case "letter": return x.letter(i);
+            case "give": return x.give(i);
+            case "drop": return x.drop(i);
+            case "uses": return x.uses(i);
+            case "depth": return x.depth(i);
+            case "clear": return x.clear();
+            default: return x.size();
+        }
+    }
+
+    private static void patterns(Random random) {
+        for (int i = 0; i < PATTERNS; i++) {
+            String text = bytesOf("abc", random.nextInt(9), random);
+            String pattern = random.nextBoolean() ? bytesOf(PATTERN_BYTES, random.nextInt(12), random)
+                : grown(random, 4);
+            if (pattern.length() > 24) {
+                continue;
+            }
+            Boolean due = Model.goes(text, pattern);
+            Check.operation(27, due == null ? "error" : due.toString(), "'" + text + "'", "'" + pattern + "'");
+        }
+    }
+
+    private static String bytesOf(String from, int length, Random random) {
+        StringBuilder all = new StringBuilder();
+        for (int i = 0; i < length; i++) {
+            all.append(from.charAt(random.nextInt(from.length())));
+        }
+        return all.toString();
+    }
+
+    /** A text that is a pattern. */
+    private static String grown(Random random, int deep) {
+        switch (deep == 0 ? 0 : random.nextInt(8)) {
+            case 0: return bytesOf("abc.", 1, random);
+            case 1: return "(" + grown(random, deep - 1) + ")" + bytesOf("*+?", 1, random);
+            case 2: return "(" + grown(random, deep - 1) + "|" + grown(random, deep - 1) + ")";
+            case 3: return "^" + grown(random, deep - 1);
+            case 4: return grown(random, deep - 1) + "$";
+            case 5: return "[" + (random.nextBoolean() ? "^" : "") + bytesOf("abc", 1, random) + "]" + bytesOf("*+?", 1, random);
+            default: return grown(random, deep - 1) + grown(random, deep - 1);
+        }
+    }
+}
