@@ -9,10 +9,15 @@ public final class ModelTest {
         "type", "text", "whole", "leaf", "call", "takes", "run", "number", "tag", "letter", "give", "drop", "uses",
         "depth", "clear", "size"
     };
-    // How often each of NAMES is called, of 100.
-    private static final int[] OFTEN = {13, 10, 5, 7, 24, 1, 18, 5, 4, 4, 3, 1, 2, 2, 0, 1};
+    // How often each of NAMES is called, of 100: in runs with all kinds of values, with many texts, with few.
+    private static final int[][] OFTEN = {
+        {13, 10, 5, 7, 24, 1, 18, 5, 4, 4, 3, 1, 2, 2, 0, 1},
+        {22, 15, 1, 1, 22, 0, 20, 5, 4, 4, 3, 1, 1, 1, 0, 0},
+        {2, 1, 14, 14, 27, 1, 20, 8, 1, 1, 4, 2, 2, 2, 0, 1}
+    };
     private static final String[] PIECES = {
-        "a", "b", "ab", "aB", "ba", "abc", "12", "-", "0", "true", " ", "*", "(a)", "a|b", "[a-c]", ".", "b+", "^a", "b$"
+        "a", "b", "ab", "aB", "ba", "abc", "12", "-", "0", "true", " ", "*", "(a)", "a|b", "[a-c]", ".", "b+", "^a", "b$",
+        "(", ")", "[", "\\"
     };
     private static final long[] WHOLES = {
         0, 1, -1, 2, 3, -2, 7, 24, 1000, 31250000, -32000000, 999999999999999L, 1000000000000000L,
@@ -35,7 +40,7 @@ public final class ModelTest {
         Model model = new Model();
         int size = 0;
         for (int i = 0; i < CALLS; i++) {
-            String name = random.nextInt(300) == 0 ? "clear" : NAMES[chosen(random)];
+            String name = random.nextInt(120) == 0 ? "clear" : NAMES[chosen(OFTEN[run % OFTEN.length], random)];
             long first = first(name, size, random);
             int second = second(name, first, size, random);
             int third = operand(size, random);
@@ -52,15 +57,15 @@ public final class ModelTest {
         return 0;
     }
 
-    private static int chosen(Random random) {
+    private static int chosen(int[] often, Random random) {
         int left = random.nextInt(100);
-        for (int i = 0; i < OFTEN.length; i++) {
-            left -= OFTEN[i];
+        for (int i = 0; i < often.length; i++) {
+            left -= often[i];
             if (left < 0) {
                 return i;
             }
         }
-        return OFTEN.length - 1;
+        return often.length - 1;
     }
 
     private static long first(String name, int size, Random random) {
@@ -69,7 +74,8 @@ public final class ModelTest {
             case "text": return random.nextInt(3) > 0 ? 0 : random.nextInt(3) > 0 ? 5 : random.nextInt(30) - 1;
             case "whole": return WHOLES[random.nextInt(WHOLES.length)];
             case "leaf": return random.nextInt(10) == 0 ? random.nextInt(8) - 2 : new int[] {0, 1, 4}[random.nextInt(3)];
-            case "call": return random.nextInt(32) - 1;
+            // PART and GOES seldom meet the kinds that they ask for, so they come more often.
+            case "call": return random.nextInt(4) > 0 ? random.nextInt(32) - 1 : random.nextBoolean() ? 11 : 27;
             case "takes": return random.nextInt(34) - 2;
             case "letter": return random.nextInt(10) - 1;
             case "give":

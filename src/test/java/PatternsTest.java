@@ -10,6 +10,7 @@ public final class PatternsTest {
         none();
         tags();
         large();
+        oneAfterAnother();
         Check.end();
     }
 
@@ -182,5 +183,25 @@ public final class PatternsTest {
         goes(LONG, "(((((.+)+)+)+)+)+$", "true");
         goes("abcabcabcabcabcabcabcabz", "(((((.+)+)+)+)+)+c$", "false");
         goes(LONG, "\\a\\b\\c\\a\\b\\c\\a\\b\\c\\a\\b\\c", "true");
+    }
+
+    /** Nothing of a pattern, or of what was none, stays for the next one on the same object. */
+    private static void oneAfterAnother() {
+        String[] patterns = {"b", "((x", "c$", "a|(b", "x", "(a)(b", "^b", "^a", "[a", "", "(b)", "a)", "x*y", "abc"};
+        String[] due = {
+            "true", "error", "true", "error", "false", "error", "false", "true", "error", "true", "true", "error",
+            "false", "true"
+        };
+        for (int before = 0; before < patterns.length; before++) {
+            FunctionRows x = new FunctionRows();
+            int text = Check.text(x, "abc", 0);
+            for (String pattern : patterns) {
+                x.call(27, text, Check.text(x, pattern, 0), 0);
+            }
+            for (int now = 0; now < patterns.length; now++) {
+                Check.due("GOES " + patterns[before], Check.reckoned(x, 2 * before + 2), due[before]);
+                Check.due("GOES " + patterns[now] + " behind it", Check.reckoned(x, 2 * now + 2), due[now]);
+            }
+        }
     }
 }
