@@ -313,7 +313,8 @@ public final class OperationsTest {
         Check.due("GIVEN: a value", Check.reckoned(x, given), "true");
         Check.due("GIVEN: the other one", Check.reckoned(x, x.call(24, other, 0, 0)), "false");
         Check.due("GIVEN: of a call", Check.reckoned(x, x.call(24, given, 0, 0)), "error");
-        Check.due("GIVEN: of what is a variable's value", Check.reckoned(x, x.call(24, x.call(23, variable, variable, 0), 0, 0)), "error");
+        int taken = x.call(23, variable, variable, 0);
+        Check.due("GIVEN: of what is a variable's value", Check.reckoned(x, x.call(24, taken, 0, 0)), "error");
         x.drop(2);
         Check.due("GIVEN: dropped", Check.reckoned(x, given), "false");
     }
