@@ -23,6 +23,7 @@ public final class ModelTest {
         0, 1, -1, 2, 3, -2, 7, 24, 1000, 31250000, -32000000, 999999999999999L, 1000000000000000L,
         -1000000000000000L, 1000000000000001L, -1000000000000001L, Long.MAX_VALUE, Long.MIN_VALUE
     };
+    private static final int[] LEAVES = {0, 1, 4};
     private static final String PATTERN_BYTES = "aaabbbc|||***++??((()))^$.[]-\\";
 
     public static void main(String[] args) {
@@ -48,11 +49,12 @@ public final class ModelTest {
             long got = answer(x, name, first, second, third, fourth);
             long want = model.answer(name, first, second, third, fourth);
             if (got != want) {
-                System.out.println("run " + run + ", call " + i + ": " + name + "(" + first + ", " + second + ", " + third
-                    + ", " + fourth + ") answered " + got + ", due is " + want);
+                System.out.println("run " + run + ", call " + i + ": " + name + "(" + first + ", " + second + ", "
+                    + third + ", " + fourth + ") answered " + got + ", due is " + want);
                 return 1;
             }
-            size = x.size();
+            // Not asked of the object itself, which is used for no more than 512 calls.
+            size = (int) model.answer("size", 0, 0, 0, 0);
         }
         return 0;
     }
@@ -73,7 +75,7 @@ public final class ModelTest {
             case "type": return bytes(random);
             case "text": return random.nextInt(3) > 0 ? 0 : random.nextInt(3) > 0 ? 5 : random.nextInt(30) - 1;
             case "whole": return WHOLES[random.nextInt(WHOLES.length)];
-            case "leaf": return random.nextInt(10) == 0 ? random.nextInt(8) - 2 : new int[] {0, 1, 4}[random.nextInt(3)];
+            case "leaf": return random.nextInt(10) == 0 ? random.nextInt(8) - 2 : LEAVES[random.nextInt(LEAVES.length)];
             // PART and GOES seldom meet the kinds that they ask for, so they come more often.
             case "call": return random.nextInt(4) > 0 ? random.nextInt(32) - 1 : random.nextBoolean() ? 11 : 27;
             case "takes": return random.nextInt(34) - 2;
@@ -90,7 +92,8 @@ public final class ModelTest {
             return random.nextInt(40) == 0 ? random.nextInt(11) - 1 : length;
         }
         if (name.equals("leaf")) {
-            return first == 4 ? random.nextInt(5) * 250 - random.nextInt(2) : random.nextInt(random.nextBoolean() ? 2 : 10);
+            int few = random.nextInt(random.nextBoolean() ? 2 : 10);
+            return first == 4 ? random.nextInt(5) * 250 - random.nextInt(2) : few;
         }
         return operand(size, random);
     }
@@ -159,7 +162,9 @@ public final class ModelTest {
             case 2: return "(" + grown(random, deep - 1) + "|" + grown(random, deep - 1) + ")";
             case 3: return "^" + grown(random, deep - 1);
             case 4: return grown(random, deep - 1) + "$";
-            case 5: return "[" + (random.nextBoolean() ? "^" : "") + bytesOf("abc", 1, random) + "]" + bytesOf("*+?", 1, random);
+            case 5:
+                String items = (random.nextBoolean() ? "^" : "") + bytesOf("abc", 1, random);
+                return "[" + items + "]" + bytesOf("*+?", 1, random);
             default: return grown(random, deep - 1) + grown(random, deep - 1);
         }
     }

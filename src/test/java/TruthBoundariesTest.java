@@ -172,8 +172,6 @@ public final class TruthBoundariesTest {
             }
             op(3, "error", error, error);
             op(4, "error", error, error);
-            op(21, "error", error);
-            op(24, error.equals("error") ? "false" : "error", error);
         }
     }
 
@@ -247,6 +245,9 @@ public final class TruthBoundariesTest {
                 op(21, Integer.toString(i + 1), value);
             }
         }
+        Check.sentence("Terms", "Where an operand is an ERROR [..] a call is an ERROR, if nothing else is said.");
+        op(21, "error", "error");
+        op(21, "error", "1/0");
     }
 
     private static void ifTaken() {

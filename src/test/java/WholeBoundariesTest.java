@@ -20,7 +20,6 @@ public final class WholeBoundariesTest {
         left();
         againstLargeNumbers();
         byZero();
-        otherKinds();
         numberOfOthers();
         numberOfTexts();
         numberDigits();
@@ -30,6 +29,7 @@ public final class WholeBoundariesTest {
         wordsOfTexts();
         wordsOfOthers();
         wordsAndBack();
+        otherKinds();
         Check.end();
     }
 
