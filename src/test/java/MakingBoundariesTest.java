@@ -298,7 +298,7 @@ public final class MakingBoundariesTest {
 
     private static void clearRowStays() {
         Check.sentence("Promise 16", "the row [..] stay");
-        String[] values = {"true", "false", "-1000000000000000", "#999", "''", "'abcdefghijklmnopqrstuvwx'z", "0"};
+        String[] values = {"true", "false", "-1000000000000000", "#999", "''", "'abcdefghijklmnopqrstuvwx'z", "0", "#0"};
         FunctionRows x = new FunctionRows();
         for (int v = 0; v < values.length; v++) {
             x.run(Check.make(x, values[v]));
@@ -312,7 +312,11 @@ public final class MakingBoundariesTest {
         for (int v = 0; v < values.length; v++) {
             Check.due("variable " + v, Check.reckoned(x, x.leaf(0, v)), values[v]);
         }
-        Check.due("variable 7, which was given none", Check.reckoned(x, x.leaf(0, 7)), "error");
+        FunctionRows y = filled(80);
+        y.clear();
+        for (int v = 0; v < 8; v++) {
+            Check.due("variable " + v + ", which was given none", Check.reckoned(y, y.leaf(0, v)), "error");
+        }
     }
 
     private static void clearReckonedStays() {
