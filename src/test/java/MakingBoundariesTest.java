@@ -298,7 +298,7 @@ public final class MakingBoundariesTest {
 
     private static void clearRowStays() {
         Check.sentence("Promise 16", "the row [..] stay");
-        String[] values = {"true", "false", "-1000000000000000", "#999", "''", "'abcdefghijklmnopqrstuvwx'z", "0", "#0"};
+        String[] values = {"true", "false", "-1000000000000000", "#9", "''", "'abcdefghijklmnopqrstuvwx'z", "0", "#0"};
         FunctionRows x = new FunctionRows();
         for (int v = 0; v < values.length; v++) {
             x.run(Check.make(x, values[v]));
