@@ -24,6 +24,10 @@ public final class ModelTest {
         -1000000000000000L, 1000000000000001L, -1000000000000001L, Long.MAX_VALUE, Long.MIN_VALUE
     };
     private static final int[] LEAVES = {0, 1, 4};
+    private static final int[] WILD = {
+        Integer.MIN_VALUE, Integer.MIN_VALUE + 1, -80, -1, 0, 7, 8, 24, 27, 29, 30, 79, 80, 999, 1000, 65536,
+        Integer.MAX_VALUE - 1, Integer.MAX_VALUE
+    };
     private static final String PATTERN_BYTES = "aaabbbc|||***++??((()))^$.[]-\\";
 
     public static void main(String[] args) {
@@ -42,10 +46,10 @@ public final class ModelTest {
         int size = 0;
         for (int i = 0; i < CALLS; i++) {
             String name = random.nextInt(120) == 0 ? "clear" : NAMES[chosen(OFTEN[run % OFTEN.length], random)];
-            long first = first(name, size, random);
-            int second = second(name, first, size, random);
-            int third = operand(size, random);
-            int fourth = operand(size, random);
+            long first = wildOr(first(name, size, random), random);
+            int second = (int) wildOr(second(name, first, size, random), random);
+            int third = (int) wildOr(operand(size, random), random);
+            int fourth = (int) wildOr(operand(size, random), random);
             long got = answer(x, name, first, second, third, fourth);
             long want = model.answer(name, first, second, third, fourth);
             if (got != want) {
@@ -57,6 +61,11 @@ public final class ModelTest {
             size = (int) model.answer("size", 0, 0, 0, 0);
         }
         return 0;
+    }
+
+    /** Sometimes another argument, as any call may have any. */
+    private static long wildOr(long argument, Random random) {
+        return random.nextInt(40) == 0 ? WILD[random.nextInt(WILD.length)] : argument;
     }
 
     private static int chosen(int[] often, Random random) {
